@@ -59,8 +59,9 @@ public final class GingerRents {
         season = new Season(real, texts, law, true);
         dream = new Season(imagined, texts, law, false);
         past = new Past();
-        tape = new Tape();
-        reader = new Reader();
+        Tape bytes = new Tape();
+        tape = bytes;
+        reader = new Reader(bytes);
         street = new Street();
         kitchen = new Kitchen();
         slab = new Slab();
@@ -145,7 +146,7 @@ public final class GingerRents {
         if (!within(k, TEXT_LAW, TEXT_NEXT)) {
             return NONE;
         }
-        boolean good = reader.reads(tape, k, town.houses);
+        boolean good = reader.reads(k, town.houses);
         tape.length = 0;
         if (!good) {
             return NONE;
@@ -601,18 +602,18 @@ public final class GingerRents {
         int draws;
 
         boolean has(int house) {
-            return house >= 0 && house < houses && house < HOUSES_MOST;
+            return house >= 0 && house < houses;
         }
 
         int read(int house, int column) {
-            if (!has(house) || column < 0 || column >= COLUMNS) {
+            if (house < 0 || house >= houses || column < 0 || column >= COLUMNS) {
                 return 0;
             }
             return cells[house * COLUMNS + column];
         }
 
         void write(int house, int column, int value) {
-            if (has(house) && column >= 0 && column < COLUMNS) {
+            if (house >= 0 && house < houses && column >= 0 && column < COLUMNS) {
                 cells[house * COLUMNS + column] = value;
             }
         }
@@ -638,11 +639,11 @@ public final class GingerRents {
         }
 
         int sumOf(int house) {
-            int sum = 0;
-            for (int w = 0; w < WALLS; w++) {
-                sum += read(house, w);
+            if (house < 0 || house >= houses) {
+                return 0;
             }
-            return sum;
+            int start = house * COLUMNS;
+            return cells[start] + cells[start + 1] + cells[start + 2] + cells[start + 3];
         }
 
         int thickest(int house) {
@@ -737,10 +738,17 @@ public final class GingerRents {
         }
 
         int tells(Borough town, int house, int wall, int word) {
-            gather(town, house, wall);
             int most = word == WORD_GNAWS ? 1000 : 99;
+            boolean isGathered = false;
             for (int i = 0; i < lines.lines; i++) {
-                if (lines.at(i, 0) == word && applies(i)) {
+                if (lines.at(i, 0) != word) {
+                    continue;
+                }
+                if (!isGathered) {
+                    gather(town, house, wall);
+                    isGathered = true;
+                }
+                if (applies(i)) {
                     return held(run(lines.at(i, 1), lines.at(i, 2)), most);
                 }
             }
@@ -863,7 +871,11 @@ public final class GingerRents {
         /** One quarter: answers how many houses fell by rents, rats and rain. */
         int pass() {
             weather();
-            officeWork();
+            for (int i = 0; i < told.office.lines; i++) {
+                if (told.office.at(i, 0) == town.quarter) {
+                    officeLine(told.office, i);
+                }
+            }
             int before = town.countUp();
             for (int h = 0; h < town.houses; h++) {
                 if (town.isUp(h) && town.read(h, Borough.LODGERS) > 0) {
@@ -900,14 +912,6 @@ public final class GingerRents {
                             town.frost = 0;
                             break;
                     }
-                }
-            }
-        }
-
-        private void officeWork() {
-            for (int i = 0; i < told.office.lines; i++) {
-                if (told.office.at(i, 0) == town.quarter) {
-                    officeLine(told.office, i);
                 }
             }
         }
@@ -1143,7 +1147,11 @@ public final class GingerRents {
         private static final int DIGITS_MOST = 4;
 
         private final byte[] bytes = new byte[TAPE_MOST];
+        final int[] kinds = new int[TAPE_MOST + 1];
+        final int[] values = new int[TAPE_MOST + 1];
+        final int[] places = new int[TAPE_MOST + 1];
         int length;
+        int tokens;
 
         void take(int four) {
             for (int shift = 24; shift >= 0; shift -= 8) {
@@ -1154,19 +1162,28 @@ public final class GingerRents {
             }
         }
 
-        /** Each token is its kind, its value and its place; the last one is the end. */
-        void scan(String words, Rows tokens) {
-            tokens.lines = 0;
+        /** The last token is the end. */
+        void scan(String words) {
+            tokens = 0;
             int from = 0;
             for (int i = 0; i < TAPE_MOST && from < length; i++) {
                 int to = behindToken(from);
                 if (!isBlank(byteAt(from))) {
                     int kind = kindOf(words, from, to);
-                    tokens.add(kind, valueOf(words, kind, from, to), from, 0, 0);
+                    keepToken(kind, valueOf(words, kind, from, to), from);
                 }
                 from = to;
             }
-            tokens.add(END, 0, length, 0, 0);
+            keepToken(END, 0, length);
+        }
+
+        private void keepToken(int kind, int value, int place) {
+            if (tokens <= TAPE_MOST) {
+                kinds[tokens] = kind;
+                values[tokens] = value;
+                places[tokens] = place;
+                tokens++;
+            }
         }
 
         private int behindToken(int from) {
@@ -1281,33 +1298,41 @@ public final class GingerRents {
         final Rows code = new Rows(TAPE_MOST, Told.CODE_WIDTH);
         int wrong = 0;
         int wrongPlace = NONE;
-        private final Rows tokens = new Rows(TAPE_MOST + 1, 3);
+        private final Tape tape;
         private int at;
+        private int kind;
+        private int value;
         private int houses;
         private int taken;
+
+        Reader(Tape tape) {
+            this.tape = tape;
+        }
 
         void forgetFault() {
             wrong = 0;
             wrongPlace = NONE;
         }
 
-        boolean reads(Tape tape, int k, int houses) {
-            tape.scan(wordsOf(k), tokens);
+        boolean reads(int k, int houses) {
+            tape.scan(wordsOf(k));
             this.houses = houses;
-            at = 0;
             lines.lines = 0;
             code.lines = 0;
+            at = NONE;
+            advance();
             for (int i = 0; i <= TEXT_LINES_MOST; i++) {
-                if (kind() == Tape.END) {
+                if (kind == Tape.END) {
                     return true;
                 }
-                if (!beginsLine(k)) {
+                if (kind != Tape.WORD || value > (k == TEXT_LAW ? WORD_MELTS : 0)) {
                     return refuse(CANNOT_STAND);
                 }
                 if (i == TEXT_LINES_MOST) {
                     return refuse(TOO_MANY);
                 }
-                if (!readsLine(k)) {
+                boolean isGood = k == TEXT_LAW ? lawLine() : k == TEXT_SKY ? skyLine() : k == TEXT_OFFICE ? officeLine() : nextLine();
+                if (!isGood) {
                     return false;
                 }
             }
@@ -1327,34 +1352,16 @@ public final class GingerRents {
             }
         }
 
-        private boolean beginsLine(int k) {
-            int last = k == TEXT_LAW ? WORD_MELTS : 0;
-            return kind() == Tape.WORD && value() <= last;
-        }
-
-        private boolean readsLine(int k) {
-            switch (k) {
-                case TEXT_LAW:
-                    return lawLine();
-                case TEXT_SKY:
-                    return skyLine();
-                case TEXT_OFFICE:
-                    return officeLine();
-                default:
-                    return nextLine();
-            }
-        }
-
         private boolean lawLine() {
-            int word = value();
-            at++;
+            int word = value;
+            advance();
             int from = code.lines;
             if (!expression()) {
                 return false;
             }
             int middle = code.lines;
             if (isWord(LAW_WHEN)) {
-                at++;
+                advance();
                 if (!condition(0)) {
                     return false;
                 }
@@ -1363,16 +1370,16 @@ public final class GingerRents {
         }
 
         private boolean skyLine() {
-            at++;
+            advance();
             if (!takesNumber(0, TEXT_QUARTER_MOST)) {
                 return false;
             }
             int quarter = taken;
-            if (kind() != Tape.WORD || !within(value(), SKY_RAIN, SKY_THAW)) {
+            if (kind != Tape.WORD || !within(value, SKY_RAIN, SKY_THAW)) {
                 return refuse(CANNOT_STAND);
             }
-            int what = value();
-            at++;
+            int what = value;
+            advance();
             int n = 0;
             if (what == SKY_RAIN) {
                 if (!takesNumber(0, 9)) {
@@ -1384,16 +1391,16 @@ public final class GingerRents {
         }
 
         private boolean officeLine() {
-            at++;
+            advance();
             if (!takesNumber(0, TEXT_QUARTER_MOST)) {
                 return false;
             }
             int quarter = taken;
-            if (kind() != Tape.WORD || !within(value(), OFFICE_ICE, OFFICE_RAZE)) {
+            if (kind != Tape.WORD || !within(value, OFFICE_ICE, OFFICE_RAZE)) {
                 return refuse(CANNOT_STAND);
             }
-            int what = value();
-            at++;
+            int what = value;
+            advance();
             if (!takesNumber(0, houses - 1)) {
                 return false;
             }
@@ -1416,7 +1423,7 @@ public final class GingerRents {
         }
 
         private boolean nextLine() {
-            at++;
+            advance();
             if (!takesNumber(0, houses - 1)) {
                 return false;
             }
@@ -1424,8 +1431,8 @@ public final class GingerRents {
             if (!isWord(NEXT_NEXT)) {
                 return refuse(CANNOT_STAND);
             }
-            at++;
-            if (kind() == Tape.NUMBER && value() == one) {
+            advance();
+            if (kind == Tape.NUMBER && value == one) {
                 return refuse(BEYOND_BOUNDS);
             }
             return takesNumber(0, houses - 1) && takesSign(';') && lines.add(one, taken, 0, 0, 0);
@@ -1438,16 +1445,19 @@ public final class GingerRents {
                 return false;
             }
             for (int i = 0; i < TAPE_MOST && (isSign('+') || isSign('-') || isSign('*') || isSign('/')); i++) {
-                int c = value();
-                at++;
+                int c = value;
+                advance();
                 if (c == '/') {
-                    if (!part()) {
+                    if (!takesNumber(1, 9999)) {
                         return false;
                     }
+                    emit(Law.PART, taken);
                     continue;
                 }
                 if (c != '*') {
-                    emitIfAny(waits);
+                    if (waits != NONE) {
+                        emit(waits, 0);
+                    }
                     waits = c == '+' ? Law.ADD : Law.LESS_BY;
                 }
                 if (!unit()) {
@@ -1457,27 +1467,18 @@ public final class GingerRents {
                     emit(Law.TIMES, 0);
                 }
             }
-            emitIfAny(waits);
-            return true;
+            return waits == NONE || emit(waits, 0);
         }
 
         private boolean unit() {
-            if (kind() == Tape.NUMBER) {
-                emit(Law.NUMBER, value());
-            } else if (kind() == Tape.WORD && value() >= LAW_KNOWN) {
-                emit(Law.KNOWN, value() - LAW_KNOWN);
+            if (kind == Tape.NUMBER) {
+                code.add(Law.NUMBER, value, 0, 0, 0);
+            } else if (kind == Tape.WORD && value >= LAW_KNOWN) {
+                code.add(Law.KNOWN, value - LAW_KNOWN, 0, 0, 0);
             } else {
                 return refuse(CANNOT_STAND);
             }
-            at++;
-            return true;
-        }
-
-        private boolean part() {
-            if (!takesNumber(1, 9999)) {
-                return false;
-            }
-            emit(Law.PART, taken);
+            advance();
             return true;
         }
 
@@ -1489,9 +1490,11 @@ public final class GingerRents {
             }
             for (int i = 0; i < TAPE_MOST && (isWord(LAW_OR) || isWord(LAW_AND)); i++) {
                 boolean isAnd = isWord(LAW_AND);
-                at++;
+                advance();
                 if (!isAnd) {
-                    emitIfAny(waits);
+                    if (waits != NONE) {
+                        emit(waits, 0);
+                    }
                     waits = Law.OR;
                 }
                 if (!clause(open)) {
@@ -1501,64 +1504,45 @@ public final class GingerRents {
                     emit(Law.AND, 0);
                 }
             }
-            emitIfAny(waits);
-            return true;
+            return waits == NONE || emit(waits, 0);
         }
 
         private boolean clause(int open) {
             boolean isNot = isWord(LAW_NOT);
-            if (!isNot && !isSign('(')) {
-                return comparison();
+            if (isNot || isSign('(')) {
+                if (open >= OPEN_MOST) {
+                    return refuse(TOO_MANY);
+                }
+                advance();
+                if (!isNot) {
+                    return condition(open + 1) && takesSign(')');
+                }
+                return clause(open + 1) && emit(Law.NOT, 0);
             }
-            if (open >= OPEN_MOST) {
-                return refuse(TOO_MANY);
-            }
-            at++;
-            if (!isNot) {
-                return condition(open + 1) && takesSign(')');
-            }
-            if (!clause(open + 1)) {
-                return false;
-            }
-            emit(Law.NOT, 0);
-            return true;
-        }
-
-        private boolean comparison() {
             if (!expression()) {
                 return false;
             }
+            int c = value;
             if (!isSign('<') && !isSign('=') && !isSign('>')) {
                 return refuse(CANNOT_STAND);
             }
-            int c = value();
-            at++;
-            if (!expression()) {
-                return false;
-            }
-            emit(c == '<' ? Law.BELOW : c == '=' ? Law.ALIKE : Law.ABOVE, 0);
-            return true;
+            advance();
+            return expression() && emit(c == '<' ? Law.BELOW : c == '=' ? Law.ALIKE : Law.ABOVE, 0);
         }
 
-        private void emit(int kind, int value) {
-            code.add(kind, value, 0, 0, 0);
-        }
-
-        private void emitIfAny(int kind) {
-            if (kind != NONE) {
-                emit(kind, 0);
-            }
+        private boolean emit(int step, int n) {
+            return code.add(step, n, 0, 0, 0);
         }
 
         private boolean takesNumber(int least, int most) {
-            if (kind() != Tape.NUMBER) {
+            if (kind != Tape.NUMBER) {
                 return refuse(CANNOT_STAND);
             }
-            if (!within(value(), least, most)) {
+            if (!within(value, least, most)) {
                 return refuse(BEYOND_BOUNDS);
             }
-            taken = value();
-            at++;
+            taken = value;
+            advance();
             return true;
         }
 
@@ -1566,29 +1550,28 @@ public final class GingerRents {
             if (!isSign(c)) {
                 return refuse(CANNOT_STAND);
             }
-            at++;
+            advance();
             return true;
         }
 
         private boolean isSign(char c) {
-            return kind() == Tape.SIGN && value() == c;
+            return kind == Tape.SIGN && value == c;
         }
 
         private boolean isWord(int word) {
-            return kind() == Tape.WORD && value() == word;
+            return kind == Tape.WORD && value == word;
         }
 
-        private int kind() {
-            return tokens.at(at, 0);
-        }
-
-        private int value() {
-            return tokens.at(at, 1);
+        private void advance() {
+            at++;
+            boolean isToken = at >= 0 && at < tape.tokens && at <= TAPE_MOST;
+            kind = isToken ? tape.kinds[at] : Tape.END;
+            value = isToken ? tape.values[at] : 0;
         }
 
         private boolean refuse(int what) {
             wrong = what;
-            wrongPlace = tokens.at(at, 2);
+            wrongPlace = at >= 0 && at < tape.tokens && at <= TAPE_MOST ? tape.places[at] : tape.length;
             return false;
         }
     }
@@ -1648,10 +1631,9 @@ public final class GingerRents {
             int best = 0;
             int most = 0;
             for (int set = 1; set < 1 << HOUSES_MOST; set++) {
-                int size = Integer.bitCount(set);
-                if (size > most && (set & up) == set && isAlone(set)) {
+                if ((set & up) == set && Integer.bitCount(set) > most && isAlone(set)) {
                     best = set;
-                    most = size;
+                    most = Integer.bitCount(set);
                 }
             }
             return best;

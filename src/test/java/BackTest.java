@@ -160,6 +160,7 @@ public final class BackTest {
         check.due("its place", x.fault(1), 4);
         check.due("nothing to undo", x.undo(), false);
         check.due("law", x.of(0, 11), 7);
+        check.due("law lines", x.look(9), 1);
         check.due("sky", x.look(10), 1);
         check.due("office", x.look(11), 1);
         check.due("next", x.of(1, 12), 1);

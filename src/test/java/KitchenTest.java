@@ -101,8 +101,10 @@ public final class KitchenTest {
         check.due("upwards: paid 2", x.mortgage(1, 1, 2, 1), 2);
         check.due("at once", x.mortgage(999, 0, 999, 0), 1);
         check.due("one more", x.mortgage(1000, 0, 999, 0), 2);
+        check.due("the most", x.mortgage(9999, 0, 999, 0), 11);
+        check.due("the most a quarter", x.mortgage(100, 50, 999, 1), 150);
         check.due("the last less", x.mortgage(1000, 0, 999, 1), 1000);
-        int[][] wrong = {{0, 0, 1, 0}, {10000, 0, 1, 0}, {1, -1, 1, 0}, {1, 51, 1, 0}, {1, 0, 0, 0}, {1, 0, 1000, 0}, {1, 0, 1, 2}, {1, 0, 1, -1}};
+        int[][] wrong = {{0, 0, 1, 0}, {10000, 0, 999, 0}, {1, -1, 9, 0}, {1, 51, 9, 0}, {1, 0, 0, 0}, {1, 0, 1000, 0}, {1, 0, 1, 2}, {1, 0, 1, -1}};
         for (int[] w : wrong) {
             check.due("mortgage " + w[0] + " " + w[1] + " " + w[2] + " " + w[3], x.mortgage(w[0], w[1], w[2], w[3]), -1);
         }
@@ -149,6 +151,9 @@ public final class KitchenTest {
         check.due("wide 9", x.whose(0, 9), 0);
         check.due("none then, however wide", x.bite(-1, 99), 0);
         check.due("nobody's", x.whose(0, 0), 0);
+        check.due("no tooth at all", x.bite(0, 0), 1);
+        check.due("all teeth", x.bite(255, 9), 2);
+        check.due("both", x.whose(0, 0), 3);
     }
 
     private static void crumbs() {
@@ -295,8 +300,8 @@ public final class KitchenTest {
         check.due("none then", x.member(-1, -1), 0);
         check.due("nothing", x.council(0), 0);
         check.due("nobody", x.council(1), 0);
-        x.member(0, 5);
-        check.due("who wants nothing", x.council(0), 0);
+        check.due("who wants nothing", x.member(0, 5), 1);
+        check.due("nothing is agreed", x.council(0), 0);
     }
 
     private static void game() {

@@ -187,6 +187,7 @@ public final class TextsTest {
         fault(x, 2, "in 0 raze 1 1;", 1, 12);
         fault(x, 2, "in 0 raze;", 1, 9);
         fault(x, 2, "in 0 rain 1;", 1, 5);
+        fault(x, 2, "in 0 2 0 1 5;", 1, 5);
         fault(x, 2, "wed 0;", 1, 0);
         fault(new GingerRents(), 2, "in 0 wed 0;", 2, 9);
     }
@@ -302,6 +303,13 @@ public final class TextsTest {
         when("2+2<5 and 2*3>5", true);
         when("wall=10 and sum=40 and lodgers=1", true);
         GingerRents x = borough();
+        String ones = "rent1" + "+1".repeat(197) + ";";
+        check.due("400 bytes", ones.length(), 400);
+        good(x, 0, ones, 1);
+        check.due("198, held to 99", x.of(0, 11), 99);
+        good(x, 0, ones.replace("+1+", "-1+"), 1);
+        check.due("by turns one less and one more, at last one more", x.of(0, 11), 2);
+        fault(x, 0, ones.substring(0, 399) + "+", 1, 400);
         Check.tell(x, 0, "rent 1 when 1=2;gnaws 2;rent 3 when wall=10;rent 4;");
         check.due("the first whose condition is so", x.of(0, 11), 3);
         Check.tell(x, 0, "rent 1 when 1=2;");

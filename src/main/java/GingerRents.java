@@ -1005,8 +1005,17 @@ public final class GingerRents {
             if (town.isUp(house) || town.read(house, Borough.LODGERS) <= 0) {
                 return;
             }
-            int near = told.nextTo(house) & town.upSet();
-            moveLodgers(house, near == 0 ? NONE : Integer.numberOfTrailingZeros(near));
+            moveLodgers(house, refuge(house));
+        }
+
+        private int refuge(int house) {
+            int near = told.nextTo(house);
+            for (int h = 0; h < town.houses; h++) {
+                if ((near >> h & 1) == 1 && town.isUp(h)) {
+                    return h;
+                }
+            }
+            return NONE;
         }
 
         private void moveLodgers(int from, int to) {

@@ -143,15 +143,10 @@ public final class GingerRents {
 
     public int text(int k) {
         reader.forgetFault();
-        if (!within(k, TEXT_LAW, TEXT_NEXT)) {
-            return NONE;
-        }
-        boolean good = reader.reads(k, town.houses);
+        boolean good = within(k, TEXT_LAW, TEXT_NEXT) && reader.reads(k, town.houses);
+        // Whatever comes of it, a tape that was told as a text is told: one of no such number, too.
         tape.length = 0;
-        if (!good) {
-            return NONE;
-        }
-        return keepText(k);
+        return good ? keepText(k) : NONE;
     }
 
     public int fault(int what) {

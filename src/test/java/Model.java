@@ -436,11 +436,11 @@ final class Model {
     int text(int k) {
         fault = 0;
         faultPlace = -1;
+        String text = tape.toString();
+        tape.setLength(0);
         if (k < 0 || k > 3) {
             return -1;
         }
-        String text = tape.toString();
-        tape.setLength(0);
         try {
             ModelText read = new ModelText(k, text, world.houses.size());
             switch (k) {

@@ -55,8 +55,22 @@ public final class TextsTest {
         check.due("the tape forgets nothing", x.look(13), 1);
         check.due("no such text", x.text(4), -1);
         check.due("no such text: no fault", x.fault(0), 0);
-        check.due("no such text: the tape stays", x.end(3), true);
+        check.due("no such text: no place", x.fault(1), -1);
+        check.due("no such text: the tape is empty", x.end(1), false);
+        check.due("no such text: nothing is forgotten", x.look(13), 1);
+        check.due("no such text: the law stays", x.look(9), 1);
+        x.feed('x' << 24, 0, 0, 0, 0);
+        check.due("a fault", x.text(0), -1);
+        check.due("its place", x.fault(1), 0);
+        x.feed('x' << 24, 0, 0, 0, 0);
         check.due("text -1", x.text(-1), -1);
+        check.due("text -1: no fault", x.fault(0), 0);
+        check.due("text -1: no place", x.fault(1), -1);
+        check.due("text -1: from the start", x.feed(0, 0, 0, 0, 0), 20);
+        check.due("the lowest number", x.text(Integer.MIN_VALUE), -1);
+        check.due("the lowest number: from the start", x.feed(0, 0, 0, 0, 0), 20);
+        check.due("the highest number", x.text(Integer.MAX_VALUE), -1);
+        check.due("the highest number: from the start", x.feed(0, 0, 0, 0, 0), 20);
     }
 
     private static void fault(GingerRents x, int k, String text, int what, int place) {

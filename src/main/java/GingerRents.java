@@ -5,6 +5,7 @@ public final class GingerRents {
     private static final int HOUSES_MOST = 12;
     private static final int WALLS = 4;
     private static final int WALL_MOST = 99;
+    private static final int AGE_MOST = 9999;
     private static final int QUARTER_MOST = 9999;
     private static final int QUARTERS_AT_ONCE = 60;
     private static final int STANDS_MOST = 200;
@@ -987,13 +988,14 @@ public final class GingerRents {
             }
         }
 
+        /** In thought quarters go by behind the last one, too: what counts them stays within its bounds. */
         private void grow() {
             for (int h = 0; h < town.houses; h++) {
                 if (town.isUp(h)) {
-                    town.write(h, Borough.AGE, town.read(h, Borough.AGE) + 1);
+                    town.write(h, Borough.AGE, Math.min(AGE_MOST, town.read(h, Borough.AGE) + 1));
                 }
             }
-            town.quarter++;
+            town.quarter = Math.min(QUARTER_MOST, town.quarter + 1);
         }
 
         private void leaveIfFallen(int house) {

@@ -5,6 +5,8 @@ public final class ForesightTest {
     public static void main(String[] args) {
         goes();
         goesByRats();
+        ageInThought();
+        quarterInThought();
         stands();
         hears();
         heard();
@@ -59,6 +61,48 @@ public final class ForesightTest {
         check.due("not before", x.goes(4, 1), 1);
         check.due("stands at 500", x.stands(0), 5);
         check.due("gnawed stays", x.look(4), 0);
+    }
+
+    /** A house that has stood for all quarters there are but some. */
+    private static GingerRents late(int wall, int quartersLeft) {
+        GingerRents x = new GingerRents();
+        x.house(wall, 0, 0);
+        Check.tell(x, 0, "rent 0;gnaws 0;melts 0;");
+        for (int i = 0; i < 166; i++) {
+            x.quarters(60);
+        }
+        x.quarters(39 - quartersLeft);
+        check.due("quarters are left", x.look(5), 9999 - quartersLeft);
+        check.due("age", x.of(0, 10), 9999 - quartersLeft);
+        return x;
+    }
+
+    private static void ageInThought() {
+        GingerRents x = late(1, 1);
+        Check.tell(x, 0, "rent 1 when age > 9999;rent 0;gnaws 0;");
+        check.due("never above: nobody nibbles", x.goes(60, 0), 0);
+        check.due("never above: it stands", x.stands(0), -1);
+        Check.tell(x, 0, "rent 1 when age = 9999;rent 0;gnaws 0;");
+        check.due("9998 then", x.goes(1, 0), 0);
+        check.due("9999 then", x.goes(2, 0), 1);
+        check.due("9999 on", x.goes(4, 0), 3);
+        check.due("until it falls", x.goes(60, 0), 4);
+        check.due("falls in the fifth", x.stands(0), 5);
+        x.quarters(1);
+        check.due("falls in the fourth", x.stands(0), 4);
+        check.due("nothing stays", x.of(0, 10), 9999);
+    }
+
+    private static void quarterInThought() {
+        GingerRents x = late(1, 1);
+        Check.tell(x, 0, "rent 1 when quarter > 9999;rent 0;gnaws 0;");
+        check.due("no quarter above", x.goes(60, 0), 0);
+        check.due("no quarter above: it stands", x.stands(0), -1);
+        Check.tell(x, 0, "rent 1 when quarter = 9999;rent 0;gnaws 0;");
+        check.due("quarter 9998 then", x.goes(1, 0), 0);
+        check.due("quarter 9999 on", x.goes(4, 0), 3);
+        check.due("falls then", x.stands(0), 5);
+        check.due("no quarter stays", x.look(5), 9998);
     }
 
     private static void stands() {

@@ -359,12 +359,16 @@ final class Model {
             if (world.frost == 1 && h.hard < 9) {
                 h.hard++;
             }
-            h.age++;
+            if (h.age < 9999) {
+                h.age++;
+            }
         }
         for (int i = 0; i < count; i++) {
             goIfDown(i);
         }
-        world.quarter++;
+        if (world.quarter < 9999) {
+            world.quarter++;
+        }
         stood.removeAll(stands);
         return stood.size();
     }

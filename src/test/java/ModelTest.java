@@ -4,6 +4,7 @@ import java.util.Random;
 public final class ModelTest {
     private static final int RUNS = 1500;
     private static final int CALLS = 512;
+    private static final int LATE_EVERY = 25;
 
     private final Check check = new Check();
     private final Random random;
@@ -76,6 +77,9 @@ public final class ModelTest {
             due("house", x.house(wall, i % 10, i % 7), m.house(wall, i % 10, i % 7));
             calls++;
         }
+        if (run % LATE_EVERY == 0) {
+            comeLate();
+        }
         for (int k = 0; k < 4; k++) {
             text(k);
         }
@@ -89,6 +93,18 @@ public final class ModelTest {
             }
         }
         askAll();
+    }
+
+    /** The last quarters there are come, with all houses as they were. */
+    private void comeLate() {
+        tell(0, "rent 0;gnaws 0;melts 0;");
+        for (int i = 0; i < 166; i++) {
+            due("quarters 60", x.quarters(60), m.quarters(60));
+            calls++;
+        }
+        int n = 1 + draw(39);
+        due("quarters " + n, x.quarters(n), m.quarters(n));
+        calls++;
     }
 
     private void askAll() {
@@ -152,6 +168,10 @@ public final class ModelTest {
             due("end", x.end(0), m.end(0));
             calls++;
         }
+        tell(k, text);
+    }
+
+    private void tell(int k, String text) {
         for (int from = 0; from < text.length(); from += 20) {
             int[] v = new int[5];
             for (int i = 0; i < 20; i++) {

@@ -6,12 +6,14 @@ final class ModelTexts {
     private static final String[] JUNK = {"", " ", "\n", ";", "(", ")", "not ", "and", "or ", "when", "/0", "/ 0", "12345", "1000", "99", "+", "-", "<",
         "=", ">", "*", "#", "\t", "X", "rent ", "in ", "house ", "next", "rain ", "wed 0;", "0", "10", "100", "((((((((", "not not not not not "};
 
+    private static final int LATE = 9900;
+
     private ModelTexts() {
     }
 
     static String any(Random random, int k, int houses, int quarter) {
         int lines = random.nextInt(12) == 0 ? 14 + random.nextInt(5) : random.nextInt(6);
-        StringBuilder text = new StringBuilder();
+        StringBuilder text = new StringBuilder(k == 0 && quarter > LATE ? lateLaw(random) : "");
         for (int i = 0; i < lines; i++) {
             String line = line(random, k, houses, quarter);
             if (text.length() + line.length() <= 390) {
@@ -108,6 +110,12 @@ final class ModelTexts {
             default:
                 return "melts " + (random.nextInt(3) == 0 ? "" + random.nextInt(4) : sum(random)) + when;
         }
+    }
+
+    /** Laws that tell the last quarters apart from one another. */
+    private static String lateLaw(Random random) {
+        String counts = random.nextBoolean() ? "age" : "quarter";
+        return "rent " + random.nextInt(4) + " when " + counts + "<=>".charAt(random.nextInt(3)) + (9999 - random.nextInt(8)) + ";";
     }
 
     private static String condition(Random random, int depth) {

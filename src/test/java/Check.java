@@ -1,14 +1,30 @@
 /** Counts answers that are not as due, and ends a test with them. */
 final class Check {
+    private static final int TOLD_MOST = 40;
+
     private int asked = 0;
     private int wrong = 0;
+    private String sentence = "";
+
+    /** The document's sentence by which the answers that follow are due. */
+    void says(String sentence) {
+        this.sentence = "\"" + sentence + "\": ";
+    }
 
     void due(String call, long got, long want) {
+        count(call, got == want, "" + got, "" + want);
+    }
+
+    void due(String call, String got, String want) {
+        count(call, got.equals(want), got, want);
+    }
+
+    private void count(String call, boolean isSo, String got, String want) {
         asked++;
-        if (got != want) {
+        if (!isSo) {
             wrong++;
-            if (wrong <= 40) {
-                System.out.println(call + " answered " + got + ", due is " + want);
+            if (wrong <= TOLD_MOST) {
+                System.out.println(sentence + call + " answered " + got + ", due is " + want);
             }
         }
     }
@@ -30,6 +46,24 @@ final class Check {
         if (wrong != 0) {
             System.exit(1);
         }
+    }
+
+    /** A borough in which nobody pays, gnaws or melts. */
+    static GingerRents quiet(int houses, int wall) {
+        GingerRents x = new GingerRents();
+        for (int i = 0; i < houses; i++) {
+            x.house(wall, 0, 0);
+        }
+        tell(x, 0, "rent 0;gnaws 0;melts 0;");
+        return x;
+    }
+
+    /** Gives the four walls of a house. */
+    static void walls(GingerRents x, int house, int a, int b, int c, int d) {
+        x.set(0, house, a);
+        x.set(1, house, b);
+        x.set(2, house, c);
+        x.set(3, house, d);
     }
 
     /** Puts a text on the tape, which is to be empty, and makes it text k. */

@@ -52,17 +52,8 @@ public final class QuartersTest {
         check.due("line by line", x.look(2), 0);
     }
 
-    private static GingerRents quiet(int houses, int wall) {
-        GingerRents x = new GingerRents();
-        for (int i = 0; i < houses; i++) {
-            x.house(wall, 0, 0);
-        }
-        Check.tell(x, 0, "rent 0;gnaws 0;melts 0;");
-        return x;
-    }
-
     private static void office() {
-        GingerRents x = quiet(2, 1);
+        GingerRents x = Check.quiet(2, 1);
         Check.tell(x, 0, "rent 9 when quarter=0;rent 0;gnaws 0;melts 0;");
         Check.tell(x, 2, "in 1 ice 0 3;in 2 ice 0 9;in 1 bake 1 3 60;in 1 bake 1 3 60;in 2 bake 0 2 5;");
         check.due("both fall", x.quarters(1), 2);
@@ -80,7 +71,7 @@ public final class QuartersTest {
     }
 
     private static void officeByHand() {
-        GingerRents x = quiet(3, 20);
+        GingerRents x = Check.quiet(3, 20);
         x.set(7, 2, 0);
         Check.tell(x, 3, "house 0 next 1;house 1 next 2;");
         Check.tell(x, 2, "in 0 wed 0;in 0 wed 0;in 0 wed 2;in 1 raze 0;in 1 raze 0;in 2 wed 0;");
@@ -98,7 +89,7 @@ public final class QuartersTest {
         check.due("to", x.book(1, 3), 1);
         x.quarters(1);
         check.due("no more lines", x.look(7), 2);
-        GingerRents y = quiet(2, 0);
+        GingerRents y = Check.quiet(2, 0);
         y.set(1, 0, 7);
         y.set(1, 1, 9);
         Check.tell(y, 3, "house 0 next 1;");
@@ -108,7 +99,7 @@ public final class QuartersTest {
     }
 
     private static void rents() {
-        GingerRents x = quiet(3, 3);
+        GingerRents x = Check.quiet(3, 3);
         x.set(1, 0, 6);
         x.set(3, 0, 5);
         x.set(7, 1, 0);
@@ -144,18 +135,18 @@ public final class QuartersTest {
         check.due("nibbled", x.book(last - 2, 3), 2);
         check.due("in quarter 3", x.book(last - 2, 0), 3);
         check.due("eaten", x.look(3), 17);
-        GingerRents y = quiet(1, 1);
+        GingerRents y = Check.quiet(1, 1);
         Check.tell(y, 0, "rent 4;gnaws 0;melts 0;");
         check.due("paid to the last crumb", y.quarters(1), 1);
         check.due("no icing", y.of(0, 8), 0);
         check.due("two lines", y.look(7), 2);
-        GingerRents z = quiet(1, 9);
+        GingerRents z = Check.quiet(1, 9);
         z.quarters(1);
         check.due("no rent, no line", z.look(7), 0);
     }
 
     private static void rats() {
-        GingerRents x = quiet(2, 2);
+        GingerRents x = Check.quiet(2, 2);
         x.set(0, 0, 0);
         Check.tell(x, 0, "rent 0;melts 0;gnaws 500 when wall=2;gnaws 0;");
         x.state(99);
@@ -177,7 +168,7 @@ public final class QuartersTest {
         check.due("line", x.book(0, 1), 2);
         check.due("of all walls", x.book(0, 3), first[0]);
         check.due("of the other", x.book(1, 3), first[1]);
-        GingerRents y = quiet(1, 1);
+        GingerRents y = Check.quiet(1, 1);
         y.state(7);
         y.quarters(5);
         check.due("gnaws 0 draws nothing", y.look(8), 7);
@@ -187,7 +178,7 @@ public final class QuartersTest {
         check.due("gnawed first", y.book(0, 1), 2);
         check.due("gone then", y.book(1, 1), 4);
         // The sum that a wall is asked by is what the walls before it have left.
-        GingerRents z = quiet(1, 2);
+        GingerRents z = Check.quiet(1, 2);
         Check.tell(z, 0, "rent 0;melts 0;gnaws 1000 when sum>6;gnaws 0;");
         z.quarters(1);
         check.due("two walls", z.look(4), 2);
@@ -196,7 +187,7 @@ public final class QuartersTest {
     }
 
     private static void rain() {
-        GingerRents x = quiet(1, 5);
+        GingerRents x = Check.quiet(1, 5);
         x.set(2, 0, 2);
         x.set(3, 0, 0);
         x.set(8, 0, 4);
@@ -214,7 +205,7 @@ public final class QuartersTest {
     }
 
     private static void frost() {
-        GingerRents x = quiet(2, 9);
+        GingerRents x = Check.quiet(2, 9);
         x.set(8, 0, 9);
         Check.tell(x, 0, "rent 0;gnaws 0;");
         Check.tell(x, 1, "in 0 frost;");
@@ -229,7 +220,7 @@ public final class QuartersTest {
     }
 
     private static void leaving() {
-        GingerRents x = quiet(4, 4);
+        GingerRents x = Check.quiet(4, 4);
         Check.tell(x, 3, "house 0 next 3;house 0 next 2;house 0 next 1;");
         Check.tell(x, 0, "rent 99 when quarter=0 and lodgers>1;rent 16 when quarter=0 and wall>0 and almonds=5;rent 0;gnaws 0;melts 0;");
         x.set(4, 0, 5);
@@ -255,7 +246,7 @@ public final class QuartersTest {
     }
 
     private static void fallen() {
-        GingerRents x = quiet(3, 1);
+        GingerRents x = Check.quiet(3, 1);
         Check.tell(x, 0, "rent 99 when almonds=1;rent 0;gnaws 1000 when almonds=2;gnaws 0;melts 9 when almonds=3;melts 0;");
         x.set(4, 0, 1);
         x.set(4, 1, 2);
@@ -265,7 +256,7 @@ public final class QuartersTest {
     }
 
     private static void bookIsFull() {
-        GingerRents x = quiet(12, 99);
+        GingerRents x = Check.quiet(12, 99);
         Check.tell(x, 0, "rent 1;gnaws 0;melts 0;");
         x.quarters(13);
         check.due("150 lines", x.look(7), 150);
@@ -285,7 +276,7 @@ public final class QuartersTest {
     }
 
     private static void bookAsks() {
-        GingerRents x = quiet(2, 9);
+        GingerRents x = Check.quiet(2, 9);
         x.quarters(3);
         x.act(1, 1, 4);
         int[] due = {3, 0, 1, 4};

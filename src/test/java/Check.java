@@ -1,5 +1,8 @@
 /** Counts answers that are not as due, and ends a test with them. */
 final class Check {
+    static final int LEAST = Integer.MIN_VALUE;
+    static final int MOST = Integer.MAX_VALUE;
+
     private static final int TOLD_MOST = 40;
 
     private int asked = 0;
@@ -35,6 +38,13 @@ final class Check {
 
     void holds(String what, boolean isSo) {
         due(what, isSo, true);
+    }
+
+    /** A line of the book. */
+    void line(GingerRents x, int i, int what, int which, int much) {
+        due("what line " + i + " is", x.book(i, 1), what);
+        due("which line " + i + " tells of", x.book(i, 2), which);
+        due("how much line " + i + " tells", x.book(i, 3), much);
     }
 
     int wrong() {

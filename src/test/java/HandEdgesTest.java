@@ -1,8 +1,8 @@
 /** Term 3 and promise 5, what is done by hand: each sentence of the document that names a boundary, alone. */
 public final class HandEdgesTest {
     private static final Check check = new Check();
-    private static final int LEAST = Integer.MIN_VALUE;
-    private static final int MOST = Integer.MAX_VALUE;
+    private static final int LEAST = Check.LEAST;
+    private static final int MOST = Check.MOST;
 
     public static void main(String[] args) {
         fallenByNibbling();
@@ -41,12 +41,6 @@ public final class HandEdgesTest {
         return x;
     }
 
-    private static void line(GingerRents x, int i, int what, int which, int much) {
-        check.due("what line " + i + " is", x.book(i, 1), what);
-        check.due("which line " + i + " tells of", x.book(i, 2), which);
-        check.due("how much line " + i + " tells", x.book(i, 3), much);
-    }
-
     private static void fallenByNibbling() {
         check.says("By hand (a HOUSE that stands no more by it: its LODGERS go as in (c))");
         GingerRents x = row();
@@ -57,8 +51,8 @@ public final class HandEdgesTest {
         check.due("next door", x.of(2, 7), 2);
         check.due("not to the one that does not stand", x.of(1, 7), 0);
         check.due("lines", x.look(7), 3);
-        line(x, 1, 0, 0, 1);
-        line(x, 2, 4, 0, 2);
+        check.line(x, 1, 0, 0, 1);
+        check.line(x, 2, 4, 0, 2);
     }
 
     private static void fallenByWedding() {
@@ -67,8 +61,8 @@ public final class HandEdgesTest {
         check.due("by the last wall", x.act(20, 0, 0), true);
         check.due("gone", x.of(0, 7), 0);
         check.due("both next door", x.of(2, 7), 3);
-        line(x, 0, 5, 0, 2);
-        line(x, 1, 4, 0, 2);
+        check.line(x, 0, 5, 0, 2);
+        check.line(x, 1, 4, 0, 2);
         check.due("the door is there", x.of(0, 9), 1);
     }
 
@@ -80,8 +74,8 @@ public final class HandEdgesTest {
         check.due("the other", x.act(22, 2, 0), true);
         check.due("to the street", x.of(0, 7) + x.of(1, 7) + x.of(2, 7), 0);
         check.due("lines", x.look(7), 2);
-        line(x, 0, 4, 0, 2);
-        line(x, 1, 4, 2, -1);
+        check.line(x, 0, 4, 0, 2);
+        check.line(x, 1, 4, 2, -1);
     }
 
     private static void notFallen() {
@@ -128,7 +122,7 @@ public final class HandEdgesTest {
             check.due("all of " + w, x.act(w, 0, has[w]), true);
             check.due("none is left of " + w, x.of(0, w), 0);
             check.due("none to nibble of " + w, x.act(w, 0, 1), false);
-            line(x, w, 0, 0, has[w]);
+            check.line(x, w, 0, 0, has[w]);
         }
     }
 
@@ -199,7 +193,7 @@ public final class HandEdgesTest {
             check.due("of " + wall[i], x.of(0, 1), due[i]);
             check.due("nothing is eaten", x.look(3), 0);
             check.due("lodgers, or the street", x.of(0, 7), due[i] > 0 ? 2 : 0);
-            line(x, 0, 5, 0, 2);
+            check.line(x, 0, 5, 0, 2);
         }
     }
 
@@ -233,7 +227,7 @@ public final class HandEdgesTest {
         check.due("nobody is left", x.act(21, 0, 1), false);
         check.due("both are there", x.of(1, 7), 2);
         check.due("one line", x.look(7), 1);
-        line(x, 0, 4, 0, 1);
+        check.line(x, 0, 4, 0, 1);
     }
 
     private static void moveToAnotherThatStands() {
@@ -310,6 +304,9 @@ public final class HandEdgesTest {
     private static void actOfAnotherWhat() {
         check.says("true; false if it can't be, or another what.");
         GingerRents x = Check.quiet(2, 20);
+        for (int what = 4; what <= 7; what++) {
+            x.set(what, 0, 9);
+        }
         for (int what : new int[] {LEAST, -1, 4, 5, 9, 14, 15, 19, 23, 24, 30, 33, MOST}) {
             check.due("act " + what, x.act(what, 0, 1), false);
         }

@@ -1,8 +1,8 @@
 /** Term 1 and promises 1 to 5, 11 and 40: each sentence of the document that names a boundary, alone. */
 public final class HousesEdgesTest {
     private static final Check check = new Check();
-    private static final int LEAST = Integer.MIN_VALUE;
-    private static final int MOST = Integer.MAX_VALUE;
+    private static final int LEAST = Check.LEAST;
+    private static final int MOST = Check.MOST;
 
     public static void main(String[] args) {
         usedFor512Calls();
@@ -87,9 +87,10 @@ public final class HousesEdgesTest {
             check.due("house " + i, x.house(i, 0, 0), i);
             check.due("how many", x.look(0), i + 1);
         }
-        String before = Digest.borough(x);
         check.due("a thirteenth", x.house(1, 0, 0), -1);
-        check.due("all as it was", Digest.borough(x), before);
+        check.due("twelve yet", x.look(0), 12);
+        check.due("those that stand", x.look(6), 4094);
+        check.due("house 0", x.of(0, 0), 0);
         check.due("house 11", x.of(11, 0), 11);
         check.due("no house 12", x.of(12, 0), -1);
     }

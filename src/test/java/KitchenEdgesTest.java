@@ -3,8 +3,8 @@ import java.util.function.IntUnaryOperator;
 /** Term 4, what is told for thought, and promises 18 to 30 and 32 to 37: each sentence of the document that names a boundary, alone. */
 public final class KitchenEdgesTest {
     private static final Check check = new Check();
-    private static final int LEAST = Integer.MIN_VALUE;
-    private static final int MOST = Integer.MAX_VALUE;
+    private static final int LEAST = Check.LEAST;
+    private static final int MOST = Check.MOST;
 
     public static void main(String[] args) {
         pieceUpTo();
@@ -20,6 +20,7 @@ public final class KitchenEdgesTest {
         pansOneIsGreater();
         pansFewest();
         pansByTheFirst();
+        pansAreEmptyEachTime();
         mortgageAnotherWhat();
         mortgageDebtBounds();
         mortgageRateBounds();
@@ -144,6 +145,7 @@ public final class KitchenEdgesTest {
         check.due("of nine: where", plate(99, 99, 99, 99, 99, 99, 99, 99, 99).plate(1, 1), -1);
         check.due("of one: the share", plate(7).plate(1, 0), 7);
         check.due("of one: where", plate(7).plate(1, 1), -1);
+        check.due("of nothing: where", plate(0, 0, 0).plate(1, 1), -1);
     }
 
     private static void plateMoreThanPieces() {
@@ -158,8 +160,10 @@ public final class KitchenEdgesTest {
                 check.due(k + " of " + n + " where", x.plate(k, 1), -1);
             }
             if (n > 0) {
+                int all = n;
                 check.due(n + " of " + n, x.plate(n, 0), 3);
                 another(what -> x.plate(1, what), LEAST, -1, 2, MOST);
+                another(what -> x.plate(all, what), LEAST, -1, 2, MOST);
             }
         }
     }
@@ -208,6 +212,8 @@ public final class KitchenEdgesTest {
         another(what -> x.pans(1, what), LEAST, -1, 2, MOST);
         check.due("no house: no pan", new GingerRents().pans(60, 0), 0);
         check.due("no house: no pan by the first", new GingerRents().pans(1, 1), 0);
+        check.due("no house, none of 0", new GingerRents().pans(0, 0), -1);
+        check.due("no house, none of 61", new GingerRents().pans(61, 1), -1);
     }
 
     private static void pansOneIsGreater() {
@@ -217,6 +223,7 @@ public final class KitchenEdgesTest {
         check.due("of 11 by the first", x.pans(11, 1), -1);
         check.due("of 12", x.pans(12, 0), 2);
         check.due("of 12 by the first", x.pans(12, 1), 2);
+        check.due("the first is greater", doughs(30, 1).pans(29, 0), -1);
         check.due("the last is greater", doughs(1, 30).pans(29, 0), -1);
         check.due("as great", doughs(1, 30).pans(30, 0), 2);
     }
@@ -238,6 +245,28 @@ public final class KitchenEdgesTest {
         check.due("not just", doughs(6, 5, 6, 6).pans(10, 1), 4);
         check.due("the first, not the last: 6 | 5 | and 4 to 6", doughs(6, 5, 4, 5).pans(10, 1), 2);
         check.due("8 alone", doughs(30, 30, 30, 30, 30, 30, 30, 30).pans(59, 1), 8);
+    }
+
+    private static void pansAreEmptyEachTime() {
+        check.says("PANS what 0 the fewest, 1 by the first that has room.");
+        GingerRents x = doughs(4, 4, 4, 6, 6, 6);
+        for (int i = 0; i < 3; i++) {
+            check.due("by the first of 10", x.pans(10, 1), 4);
+            check.due("fewest of 10", x.pans(10, 0), 3);
+            check.due("by the first of 60", x.pans(60, 1), 1);
+            check.due("fewest of 6", x.pans(6, 0), 6);
+            check.due("by the first of 6", x.pans(6, 1), 6);
+            check.due("fewest of 60", x.pans(60, 0), 1);
+        }
+        for (int i = 0; i < 3; i++) {
+            check.due("of 60 again", x.pans(60, 1), 1);
+            check.due("of 10 again", x.pans(10, 1), 4);
+            check.due("of 12 again: 4 4 4 | 6 6 | 6", x.pans(12, 1), 3);
+        }
+        x.dough(-1);
+        x.dough(30);
+        check.due("other houses then", x.pans(30, 1), 1);
+        check.due("other houses then: fewest", x.pans(30, 0), 1);
     }
 
     private static void mortgageAnotherWhat() {
@@ -560,6 +589,16 @@ public final class KitchenEdgesTest {
         check.due("the minute", x.ovens(0), 18);
         for (int i = 0; i < 4; i++) {
             check.due("the " + i + "-th", x.ovens(10 + i), order[i]);
+        }
+        x.loaf(-1, 0);
+        x.loaf(4, 5);
+        x.loaf(1, 5);
+        x.loaf(2, 1);
+        // 1 0 2 and 1 2 0 are both done at 12.
+        check.due("the minute of three", x.ovens(0), 12);
+        int[] three = {1, 0, 2};
+        for (int i = 0; i < 3; i++) {
+            check.due("of three the " + i + "-th", x.ovens(10 + i), three[i]);
         }
     }
 

@@ -63,11 +63,12 @@ public final class ModelTest {
     }
 
     private void due(String call, int got, int want) {
+        calls++;
         check.due("run " + run + " call " + calls + " " + call, got, want);
     }
 
     private void due(String call, boolean got, boolean want) {
-        check.due("run " + run + " call " + calls + " " + call, got, want);
+        due(call, got ? 1 : 0, want ? 1 : 0);
     }
 
     private void play() {
@@ -75,7 +76,6 @@ public final class ModelTest {
         for (int i = 0; i < houses; i++) {
             int wall = temper == 0 ? draw(100) : draw(20);
             due("house", x.house(wall, i % 10, i % 7), m.house(wall, i % 10, i % 7));
-            calls++;
         }
         if (run % LATE_EVERY == 0) {
             comeLate();
@@ -84,7 +84,6 @@ public final class ModelTest {
             text(k);
         }
         while (calls < CALLS - 220 && check.wrong() == 0) {
-            calls++;
             switch (draw(4)) {
                 case 0 -> change();
                 case 1 -> ask();
@@ -100,24 +99,23 @@ public final class ModelTest {
         tell(0, "rent 0;gnaws 0;melts 0;");
         for (int i = 0; i < 166; i++) {
             due("quarters 60", x.quarters(60), m.quarters(60));
-            calls++;
         }
         int n = 1 + draw(39);
         due("quarters " + n, x.quarters(n), m.quarters(n));
-        calls++;
     }
 
+    /** As much as may be asked before the last call that the document promises anything about. */
     private void askAll() {
         for (int what = 0; what < 14; what++) {
             due("look " + what, x.look(what), m.look(what));
         }
         for (int h = 0; h < m.look(0); h++) {
-            for (int what = 0; what <= 12; what++) {
+            for (int what = 0; what <= 10 && calls < CALLS; what++) {
                 due("of " + h + " " + what, x.of(h, what), m.of(h, what));
             }
         }
-        for (int i = 0; i < m.look(7); i++) {
-            for (int what = 0; what < 4; what++) {
+        for (int i = m.look(7) - 1; i >= 0; i--) {
+            for (int what = 0; what < 4 && calls < CALLS; what++) {
                 due("book " + i + " " + what, x.book(i, what), m.book(i, what));
             }
         }
@@ -166,7 +164,6 @@ public final class ModelTest {
         }
         if (draw(10) > 0) {
             due("end", x.end(0), m.end(0));
-            calls++;
         }
         tell(k, text);
     }
@@ -178,13 +175,11 @@ public final class ModelTest {
                 v[i / 4] = v[i / 4] << 8 | (from + i < text.length() ? text.charAt(from + i) : 32);
             }
             due("feed", x.feed(v[0], v[1], v[2], v[3], v[4]), m.feed(v));
-            calls++;
         }
         due("end", x.end(text.length()), m.end(text.length()));
         due("text " + k + " " + text, x.text(k), m.text(k));
         due("fault of " + text, x.fault(0), m.fault(0));
         due("place of " + text, x.fault(1), m.fault(1));
-        calls += 4;
     }
 
     private void ask() {

@@ -1,8 +1,8 @@
 /** Term 3, a quarter and the book, and promises 6 and 12: each sentence of the document that names a boundary, alone. */
 public final class QuartersEdgesTest {
     private static final Check check = new Check();
-    private static final int LEAST = Integer.MIN_VALUE;
-    private static final int MOST = Integer.MAX_VALUE;
+    private static final int LEAST = Check.LEAST;
+    private static final int MOST = Check.MOST;
 
     public static void main(String[] args) {
         skyOfThatQuarter();
@@ -19,6 +19,7 @@ public final class QuartersEdgesTest {
         goneToTheFirst();
         goneToTheStreet();
         asManyMoreThere();
+        goneBeforeTheNextPays();
         gnawedWallsAboveNothing();
         gnawsOfNothingDraws();
         gnawedBelowTheDraw();
@@ -48,12 +49,6 @@ public final class QuartersEdgesTest {
         for (int w = 0; w < 4; w++) {
             check.due("wall " + w + " of house " + house, x.of(house, w), due[w]);
         }
-    }
-
-    private static void line(GingerRents x, int i, int what, int which, int much) {
-        check.due("what line " + i + " is", x.book(i, 1), what);
-        check.due("which line " + i + " tells of", x.book(i, 2), which);
-        check.due("how much line " + i + " tells", x.book(i, 3), much);
     }
 
     private static void skyOfThatQuarter() {
@@ -107,6 +102,7 @@ public final class QuartersEdgesTest {
             check.due(less[i] + " less", x.of(0, 8), due[i]);
             x.quarters(1);
             check.due("once", x.of(0, 8), due[i]);
+            walls(x, 0, 0, 0, 0, 0);
         }
         GingerRents x = iced();
         Check.tell(x, 2, "in 1 ice 0 5;in 2 ice 0 1;");
@@ -149,9 +145,9 @@ public final class QuartersEdgesTest {
         walls(x, 3, 0, 0, 0, 0);
         // Who lived in house 1, which did not stand, goes at the end of the quarter alone.
         check.due("lines", x.look(7), 3);
-        line(x, 0, 5, 2, 2);
-        line(x, 1, 4, 3, -1);
-        line(x, 2, 4, 1, -1);
+        check.line(x, 0, 5, 2, 2);
+        check.line(x, 1, 4, 3, -1);
+        check.line(x, 2, 4, 1, -1);
         check.due("one quarter can be undone, no more", x.look(13), 1);
     }
 
@@ -237,11 +233,11 @@ public final class QuartersEdgesTest {
         GingerRents y = paid(8);
         check.due("none is not", y.of(0, 7), 0);
         check.due("lines", y.look(7), 2);
-        line(y, 0, 0, 0, 8);
-        line(y, 1, 4, 0, -1);
+        check.line(y, 0, 0, 0, 8);
+        check.line(y, 1, 4, 0, -1);
         GingerRents z = paid(9);
         check.due("lines when iced", z.look(7), 3);
-        line(z, 2, 4, 0, -1);
+        check.line(z, 2, 4, 0, -1);
     }
 
     private static void goneToTheFirst() {
@@ -258,7 +254,7 @@ public final class QuartersEdgesTest {
         for (int h = 0; h < 5; h++) {
             check.due("lodgers of " + h, x.of(h, 7), due[h]);
         }
-        line(x, 1, 4, 4, 2);
+        check.line(x, 1, 4, 4, 2);
     }
 
     private static void goneToTheStreet() {
@@ -273,7 +269,7 @@ public final class QuartersEdgesTest {
         check.due("in thought, too", x.goes(1, 3), 1);
         x.quarters(1);
         check.due("none of them is left", x.of(0, 7) + x.of(1, 7) + x.of(2, 7), 1);
-        line(x, 1, 4, 0, -1);
+        check.line(x, 1, 4, 0, -1);
     }
 
     private static void asManyMoreThere() {
@@ -287,6 +283,32 @@ public final class QuartersEdgesTest {
         x.quarters(1);
         check.due("nobody here", x.of(0, 7), 0);
         check.due("all there", x.of(1, 7), 198);
+    }
+
+    private static void goneBeforeTheNextPays() {
+        check.says("HOUSE by HOUSE that stands and has LODGERS: rent is asked");
+        GingerRents x = Check.quiet(3, 9);
+        Check.walls(x, 1, 1, 0, 0, 0);
+        x.set(7, 1, 4);
+        Check.tell(x, 3, "house 1 next 2;");
+        Check.tell(x, 0, "rent lodgers;gnaws 0;melts 0;");
+        x.quarters(1);
+        // 0 pays 1; 1 has 1 of 4 and goes; 2 pays for five then.
+        walls(x, 0, 8, 9, 9, 9);
+        walls(x, 2, 7, 8, 8, 8);
+        check.due("lines", x.look(7), 5);
+        check.line(x, 3, 4, 1, 2);
+        check.line(x, 4, 0, 2, 5);
+        GingerRents y = Check.quiet(2, 9);
+        Check.walls(y, 1, 1, 0, 0, 0);
+        y.set(7, 1, 4);
+        Check.tell(y, 3, "house 1 next 0;");
+        Check.tell(y, 0, "rent lodgers;gnaws 0;melts 0;");
+        y.quarters(1);
+        check.due("who came to house 0 behind its rent pays the next one", y.look(3), 2);
+        check.due("lodgers of house 0", y.of(0, 7), 5);
+        y.quarters(1);
+        check.due("the next one", y.look(3), 7);
     }
 
     private static int drawn(int state, int times) {
@@ -354,7 +376,7 @@ public final class QuartersEdgesTest {
             check.due("nothing is gnawed", x.look(4), 0);
             check.due("nothing is eaten", x.look(3), 0);
             if (melts[i] > 0) {
-                line(x, 0, 3, 0, 3 - due[i]);
+                check.line(x, 0, 3, 0, 3 - due[i]);
             }
         }
     }
@@ -408,8 +430,8 @@ public final class QuartersEdgesTest {
             check.due("lodgers of " + h, x.of(h, 7), due[h]);
         }
         check.due("lines", x.look(7), 2);
-        line(x, 0, 4, 0, -1);
-        line(x, 1, 4, 2, 3);
+        check.line(x, 0, 4, 0, -1);
+        check.line(x, 1, 4, 2, 3);
         x.quarters(1);
         check.due("no lodgers, no lines", x.look(7), 2);
     }
@@ -446,7 +468,7 @@ public final class QuartersEdgesTest {
         check.due("a wedding, too", x.act(20, 1, 0), true);
         check.due("a move, too", x.act(21, 1, 0), true);
         check.due("no more", x.look(7), 150);
-        line(x, 149, 0, 0, 2);
+        check.line(x, 149, 0, 0, 2);
         check.due("no line 150", x.book(150, 0), -2);
         check.due("it was eaten", x.look(3), 144 + 12 + 3);
         x.undo();
@@ -456,7 +478,7 @@ public final class QuartersEdgesTest {
         x.undo();
         check.due("one less", x.look(7), 149);
         x.act(1, 0, 4);
-        line(x, 149, 0, 0, 4);
+        check.line(x, 149, 0, 0, 4);
     }
 
     private static void bookIsFullWithinAQuarter() {
@@ -466,9 +488,9 @@ public final class QuartersEdgesTest {
         // 24 lines a quarter: the seventh has room for 6 that are nibbled, for none that are gnawed.
         x.quarters(7);
         check.due("150", x.look(7), 150);
-        line(x, 143, 2, 11, 4);
-        line(x, 144, 0, 0, 1);
-        line(x, 149, 0, 5, 1);
+        check.line(x, 143, 2, 11, 4);
+        check.line(x, 144, 0, 0, 1);
+        check.line(x, 149, 0, 5, 1);
         check.due("of quarter 6", x.book(149, 0), 6);
         check.due("eaten", x.look(3), 84);
         check.due("gnawed", x.look(4), 7 * 48);
@@ -500,14 +522,14 @@ public final class QuartersEdgesTest {
             Check.tell(x, 0, law[i]);
             x.quarters(1);
             check.due("one line", x.look(7), i + 1);
-            line(x, i, what[i], 0, much[i]);
+            check.line(x, i, what[i], 0, much[i]);
         }
         // 7 are left: paid to the last, nothing is owed.
         Check.tell(x, 0, "rent 7;gnaws 1000;melts 9;");
         x.quarters(1);
         check.due("nibbled and gone, not iced, gnawed, melted", x.look(7), 5);
-        line(x, 3, 0, 0, 7);
-        line(x, 4, 4, 0, -1);
+        check.line(x, 3, 0, 0, 7);
+        check.line(x, 4, 4, 0, -1);
     }
 
     private static void howMuch() {
@@ -516,22 +538,22 @@ public final class QuartersEdgesTest {
         Check.tell(x, 0, "rent 99;gnaws 1000;melts 99 when quarter=1;melts 1;");
         x.quarters(2);
         check.due("lines, with the one of who goes then", x.look(7), 7);
-        line(x, 0, 0, 0, 99);
-        line(x, 1, 2, 0, 4);
-        line(x, 2, 3, 0, 4);
+        check.line(x, 0, 0, 0, 99);
+        check.line(x, 1, 2, 0, 4);
+        check.line(x, 2, 3, 0, 4);
         // 396 less 107 are left, of which 99 are nibbled and 4 gnawed: no more than 186 can melt.
-        line(x, 3, 0, 0, 99);
-        line(x, 4, 2, 0, 4);
-        line(x, 5, 3, 0, 186);
+        check.line(x, 3, 0, 0, 99);
+        check.line(x, 4, 2, 0, 4);
+        check.line(x, 5, 3, 0, 186);
         GingerRents y = Check.quiet(1, 99);
         y.act(2, 0, 99);
-        line(y, 0, 0, 0, 99);
+        check.line(y, 0, 0, 0, 99);
         GingerRents z = Check.quiet(1, 0);
         z.set(0, 0, 1);
         Check.tell(z, 0, "rent 99;");
         z.quarters(1);
-        line(z, 0, 0, 0, 1);
-        line(z, 1, 1, 0, 98);
+        check.line(z, 0, 0, 0, 1);
+        check.line(z, 1, 1, 0, 98);
     }
 
     private static void linesOfGoneAndWed() {
@@ -539,11 +561,11 @@ public final class QuartersEdgesTest {
         GingerRents x = Check.quiet(2, 30);
         x.set(7, 0, 99);
         x.act(20, 0, 0);
-        line(x, 0, 5, 0, 100);
+        check.line(x, 0, 5, 0, 100);
         x.act(21, 1, 0);
-        line(x, 1, 4, 1, 0);
+        check.line(x, 1, 4, 1, 0);
         x.act(22, 0, 0);
-        line(x, 2, 4, 0, -1);
+        check.line(x, 2, 4, 0, -1);
     }
 
     private static void quartersBounds() {
@@ -637,8 +659,8 @@ public final class QuartersEdgesTest {
                 check.due("line " + i + " what " + what, x.book(i, what), -2);
             }
         }
-        line(x, 0, 0, 0, 1);
-        line(x, 1, 0, 0, 2);
+        check.line(x, 0, 0, 0, 1);
+        check.line(x, 1, 0, 0, 2);
         x.undo();
         check.due("a line undone", x.book(1, 3), -2);
     }

@@ -1,13 +1,14 @@
 /** Term 2 and promises 7 to 10: each sentence of the document that names a boundary, alone. */
 public final class TextsEdgesTest {
     private static final Check check = new Check();
-    private static final int LEAST = Integer.MIN_VALUE;
-    private static final int MOST = Integer.MAX_VALUE;
+    private static final int LEAST = Check.LEAST;
+    private static final int MOST = Check.MOST;
     private static final String[] LINE = {"rent 1;", "in 0 thaw;", "in 0 wed 0;", "house 0 next 1;"};
 
     public static void main(String[] args) {
         emptyAtFirst();
         noLines();
+        onlyThatText();
         skyBounds();
         officeBounds();
         nextBounds();
@@ -36,6 +37,7 @@ public final class TextsEdgesTest {
         officeLineWithoutMore();
         longestSums();
         restOfTheHouse();
+        eachWord();
         firstLineThatIsSo();
         noneIsSo();
         heldRent();
@@ -44,6 +46,7 @@ public final class TextsEdgesTest {
         heldWithoutALaw();
         wallThatIsAsked();
         tapeIsFull();
+        tapeFullOfTokens();
         highestByteFirst();
         endBounds();
         tapeIsEmptyThen();
@@ -100,6 +103,22 @@ public final class TextsEdgesTest {
         }
     }
 
+    private static void onlyThatText() {
+        check.says("is TEXT k: how many lines");
+        for (int k = 0; k < 4; k++) {
+            GingerRents x = borough();
+            for (int t = 3; t >= 0; t--) {
+                good(x, t, LINE[t], 1);
+            }
+            good(x, k, LINE[k] + LINE[k], 2);
+            for (int t = 0; t < 4; t++) {
+                check.due("lines of text " + t + " behind text " + k, x.look(9 + t), t == k ? 2 : 1);
+            }
+            check.due("next behind text " + k, x.of(0, 12), 2);
+            check.due("rent behind text " + k, x.of(0, 11), 1);
+        }
+    }
+
     private static void skyBounds() {
         check.says("(QUARTER 0 .. 999; N 0 .. 9.)");
         GingerRents x = borough();
@@ -139,6 +158,9 @@ public final class TextsEdgesTest {
         fault(x, 3, "house 1 next 1;", 2, 13);
         good(x, 3, "house 0 next 1;house 1 next 0;house 0 next 1;", 3);
         check.due("told again it is the same", x.of(0, 12), 2);
+        good(x, 3, "house 2 next 0;house 2 next 0;", 2);
+        check.due("told twice this way", x.of(0, 12), 4);
+        check.due("told twice that way", x.of(2, 12), 1);
     }
 
     private static void sixteenLines() {
@@ -431,6 +453,8 @@ public final class TextsEdgesTest {
         when("not(wall=10)", false);
         when("not wall=11 and wall=11", false);
         when("not(wall=11 and wall=11)", true);
+        when("not wall=11 and wall=10", true);
+        when("wall=10 and wall>9 and wall<11 and not wall=11", true);
     }
 
     private static void andBeforeOr() {
@@ -518,6 +542,31 @@ public final class TextsEdgesTest {
         Check.walls(x, 0, 0, 0, 0, 0);
         good(x, 0, "rent 7 when sum=0 and wall=0;rent 2;", 2);
         check.due("the least", x.of(0, 11), 7);
+    }
+
+    /** A house of which each word is another number. */
+    private static void eachWord() {
+        check.says("U = NUMBER | wall | sum | almonds | teeth | hard | icing | lodgers | door | age | rain | frost | quarter.");
+        GingerRents x = Check.quiet(2, 1);
+        x.quarters(60);
+        good(x, 0, "rent 90 when quarter=60;rent 0;gnaws 0;melts 0;", 4);
+        Check.tell(x, 1, "in 61 frost;");
+        x.quarters(1);
+        x.set(0, 0, 50);
+        x.set(7, 0, 20);
+        x.act(20, 0, 0);
+        x.quarters(1);
+        Check.walls(x, 0, 7, 30, 4, 3);
+        x.set(4, 0, 5);
+        x.set(5, 0, 6);
+        x.set(6, 0, 8);
+        x.set(8, 0, 9);
+        String[] words = {"13", "wall", "sum", "almonds", "teeth", "hard", "icing", "lodgers", "door", "age", "rain", "frost", "quarter"};
+        int[] due = {13, 30, 44, 5, 6, 8, 86, 21, 1, 61, 9, 1, 62};
+        for (int i = 0; i < words.length; i++) {
+            good(x, 0, "rent " + words[i] + ";", 1);
+            check.due("rent " + words[i], x.of(0, 11), due[i]);
+        }
     }
 
     private static void firstLineThatIsSo() {
@@ -635,6 +684,21 @@ public final class TextsEdgesTest {
         check.due("400 would be", x.feed(0x20202020, 0x20202020, 0x20202020, 0x20202020, 'x' << 24), 400);
         check.due("the last came", x.text(0), -1);
         check.due("its place", x.fault(1), 396);
+    }
+
+    /** As many tokens as there can be, and the end behind them. */
+    private static void tapeFullOfTokens() {
+        check.says("if there would be more than 400");
+        for (char c : new char[] {';', '(', '1', 'r', '?'}) {
+            GingerRents x = borough();
+            fault(x, 0, ("" + c).repeat(400), 1, 0);
+            fault(x, 3, ("" + c).repeat(400), 1, 0);
+        }
+        GingerRents x = borough();
+        fault(x, 0, "rent" + "+".repeat(396), 1, 4);
+        fault(x, 0, "rent1" + "+1".repeat(197) + "+", 1, 400);
+        good(x, 0, " ".repeat(393) + "rent 5;", 1);
+        check.due("the last bytes count", x.of(0, 11), 5);
     }
 
     private static void highestByteFirst() {

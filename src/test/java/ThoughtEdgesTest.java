@@ -1,8 +1,8 @@
 /** Term 4, quarters and ways in thought, and promises 13 to 17 and 31: each sentence of the document that names a boundary, alone. */
 public final class ThoughtEdgesTest {
     private static final Check check = new Check();
-    private static final int LEAST = Integer.MIN_VALUE;
-    private static final int MOST = Integer.MAX_VALUE;
+    private static final int LEAST = Check.LEAST;
+    private static final int MOST = Check.MOST;
 
     public static void main(String[] args) {
         nothingStays();
@@ -251,6 +251,7 @@ public final class ThoughtEdgesTest {
         GingerRents x = Check.quiet(3, 0);
         Check.tell(x, 3, "house 0 next 1;house 1 next 0;");
         check.due("one for nothing, not itself", x.heard(0, 0), 1);
+        check.due("house 0 is heard, too", x.heard(1, 0), 1);
         check.due("nobody", x.heard(2, 800), 0);
         for (int h : new int[] {LEAST, -1, 3, 12, MOST}) {
             check.due("from " + h, x.heard(h, 0), -1);
@@ -347,6 +348,8 @@ public final class ThoughtEdgesTest {
         check.due("the set of all", x.alone(1), 4095);
         check.due("of no house", new GingerRents().alone(0), 0);
         check.due("the empty set", new GingerRents().alone(1), 0);
+        check.due("one of one", Check.quiet(1, 1).alone(0), 1);
+        check.due("the set of one", Check.quiet(1, 1).alone(1), 1);
     }
 
     private static void aloneAnotherWhat() {

@@ -10,6 +10,7 @@ public final class HousesEdgesTest {
         drawsWrap();
         twelveHouses();
         wallBounds();
+        noFifthWall();
         almondBounds();
         toothBounds();
         hardBounds();
@@ -112,6 +113,30 @@ public final class HousesEdgesTest {
             check.due("99 then", x.of(0, w), 99);
             check.due("set to 0", x.set(w, 0, 0), true);
             check.due("0 then", x.of(0, w), 0);
+        }
+    }
+
+    /** What a house has beside its walls is neither nibbled nor gnawed, melted, razed or cut for a wedding. */
+    private static void noFifthWall() {
+        check.says("four WALLS 0 .. 3 of 0 .. 99");
+        String[] law = {"rent wall;gnaws 0;melts 0;", "rent 0;gnaws 1000;melts 0;", "rent 0;gnaws 0;melts 1;"};
+        for (int i = 0; i < 5; i++) {
+            GingerRents x = new GingerRents();
+            x.house(2, 9, 9);
+            x.set(6, 0, 9);
+            Check.tell(x, 0, i < 3 ? law[i] : law[0]);
+            check.due("rent by the thickest", x.of(0, 11), i == 0 || i > 2 ? 2 : 0);
+            if (i < 3) {
+                x.quarters(1);
+            } else {
+                x.act(i == 3 ? 20 : 22, 0, 0);
+            }
+            int[] left = {6, 4, 4, 6, 0};
+            check.due("what is left of the walls", x.of(0, 0) + x.of(0, 1) + x.of(0, 2) + x.of(0, 3), left[i]);
+            for (int what = 4; what <= 6; what++) {
+                check.due("what " + what + " is as it was", x.of(0, what), 9);
+            }
+            check.due("gnawed", x.look(4), i == 1 ? 4 : 0);
         }
     }
 
